@@ -119,7 +119,7 @@ public final class SampleTest {
             for (int x2 = 0; x2 <= 14; x2++) {
                 int last = (y2 + 1) / 2 * 8 + (x2 + 1) / 2;
                 HalfPel h = Due.filled(cells, 0);
-                cutBehind(h, last);
+                due.answer("arrays cut behind cell " + last, cutBehind(h, last), 1);
                 String call = "cut behind cell " + last + ": sample(" + x2 + ", " + y2 + ")";
                 try {
                     due.answer(call, h.sample(x2, y2), expected(cells, 0, x2, y2));
@@ -130,13 +130,17 @@ public final class SampleTest {
         }
     }
 
-    private static void cutBehind(HalfPel h, int last) throws Exception {
+    /** Answers how many arrays were cut: without one, the check above would see nothing. */
+    private static int cutBehind(HalfPel h, int last) throws Exception {
+        int cut = 0;
         for (Field field : HalfPel.class.getDeclaredFields()) {
             if (field.getType() == byte[].class) {
                 field.setAccessible(true);
                 field.set(h, Arrays.copyOf((byte[]) field.get(h), last + 1));
+                cut++;
             }
         }
+        return cut;
     }
 
     /** The document's table, with divisions in place of shifts and the two lines kept apart. */
