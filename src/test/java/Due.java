@@ -1,57 +1,105 @@
-/** Counts and prints the answers that are not as due; every test of the project uses it. */
-final class Due {
-    static final int[] EDGE_INTS = {
-        Integer.MIN_VALUE, Integer.MIN_VALUE + 1, -65536, -257, -256, -255, -129, -128, -127, -2, -1,
-        0, 1, 2, 3, 7, 8, 127, 128, 129, 254, 255, 256, 257, 511, 65535, 65536,
-        Integer.MAX_VALUE - 1, Integer.MAX_VALUE
-    };
-    static final int[] NO_CELL = {
-        Integer.MIN_VALUE, Integer.MIN_VALUE + 1, -256, -17, -16, -15, -2, -1,
-        16, 17, 24, 31, 32, 255, 256, 65536, Integer.MAX_VALUE - 1, Integer.MAX_VALUE
-    };
+import java.util.Arrays;
 
+/**
+ * Counts and prints the answers that are not as due, each under the sentence of the document
+ * that asks for it. Every test of the project uses it.
+ */
+final class Due {
+    /** Far above what a whole test needs; it turns a call that never returns into a failure. */
+    private static final int LIMIT_MILLIS = 120000;
+
+    private volatile String sentence = null;
+    private int looks = 0;
     private int wrong = 0;
 
-    void answer(String call, int got, int want) {
+    Due() {
+        Thread.setDefaultUncaughtExceptionHandler(this::failAsThrown);
+        Thread watch = new Thread(this::failIfStillRunning);
+        watch.setDaemon(true);
+        watch.start();
+    }
+
+    private void failIfStillRunning() {
+        try {
+            Thread.sleep(LIMIT_MILLIS);
+        } catch (InterruptedException e) {
+            return;
+        }
+        System.out.println("[" + sentence + "] a call has not returned");
+        System.out.flush();
+        Runtime.getRuntime().halt(1);
+    }
+
+    private void failAsThrown(Thread thread, Throwable thrown) {
+        report("threw " + thrown);
+        thrown.printStackTrace(System.out);
+        System.out.flush();
+        Runtime.getRuntime().halt(1);
+    }
+
+    /** What follows holds the class to these words of the document. */
+    void sentence(String words) {
+        endOfSentence();
+        sentence = words;
+        looks = 0;
+    }
+
+    void answer(int got, int want, String method, int... args) {
+        looks++;
         if (got != want) {
-            wrong++;
-            System.out.println(call + " answered " + got + ", due is " + want);
+            report(call(method, args) + " answered " + got + ", due is " + want);
         }
     }
 
-    void holds(String claim, boolean is) {
+    void holds(boolean is, String claim) {
+        looks++;
         if (!is) {
-            wrong++;
-            System.out.println("does not hold: " + claim);
+            report("does not hold: " + claim);
         }
     }
 
-    /** The whole state, as the public methods show it; the object is left as it was. */
-    void state(String when, HalfPel h, int[] cells, int rounding) {
+    /** The whole state, as the public methods show it after the call named; it is left as it was. */
+    void state(HalfPel h, Model model, String method, int... args) {
         for (int i = 0; i < 16; i++) {
-            answer(when + ": pixel(" + i + ")", h.pixel(i), cells[i]);
+            stateAnswer(h.pixel(i), model.pixel(i), "pixel(" + i + ")", method, args);
         }
-        answer(when + ": setRounding(" + rounding + ")", h.setRounding(rounding), rounding);
+        for (int y2 = 0; y2 <= 2; y2++) {
+            for (int x2 = 0; x2 <= 14; x2++) {
+                stateAnswer(h.sample(x2, y2), model.sample(x2, y2), "a sample", method, args);
+            }
+        }
+        stateAnswer(h.setRounding(model.r), model.r, "the rounding bit", method, args);
+    }
+
+    private void stateAnswer(int got, int want, String what, String method, int[] args) {
+        looks++;
+        if (got != want) {
+            report("after " + call(method, args) + ", " + what + " is " + got + ", due is " + want);
+        }
     }
 
     void end() {
+        endOfSentence();
         System.out.println(wrong == 0 ? "all answers are as due" : wrong + " answers are not as due");
         if (wrong != 0) {
             System.exit(1);
         }
     }
 
-    static HalfPel filled(int[] cells, int rounding) {
-        HalfPel h = new HalfPel();
-        for (int i = 0; i < 16; i++) {
-            h.setPixel(i, cells[i]);
+    /** A sentence that nothing was held to would pass unseen. */
+    private void endOfSentence() {
+        if (sentence != null && looks == 0) {
+            report("nothing was tested");
         }
-        h.setRounding(rounding);
-        return h;
     }
 
-    /** Sixteen different samples, small and great ones side by side. */
-    static int[] mixedCells() {
-        return new int[] {0, 255, 1, 254, 127, 128, 129, 3, 200, 17, 255 - 17, 66, 99, 130, 5, 253};
+    private void report(String text) {
+        wrong++;
+        System.out.println("[" + sentence + "] " + text);
+    }
+
+    private static String call(String method, int[] args) {
+        String list = Arrays.toString(args);
+        return method + "(" + list.substring(1, list.length() - 1) + ")";
     }
 }

@@ -12,29 +12,37 @@ import java.util.TreeSet;
 import java.util.regex.Matcher;
 import java.util.regex.Pattern;
 
-/** The sections "What it is" and "The public face": the class's members and its limits. */
+/** The section "The public face": the class's members and its limits. */
 public final class FaceTest {
     private static final Set<String> BANNED_WORDS = new HashSet<>(Arrays.asList((
-        "import package float double String Math Integer System Arrays Object null throw throws try catch "
-        + "synchronized assert instanceof enum record interface protected").split(" ")));
+        "import package java float double var null throw throws try catch synchronized assert instanceof "
+        + "enum record interface protected").split(" ")));
+    private static final Pattern CLASS_NAME = Pattern.compile("[A-Z]\\w*[a-z]\\w*");
+    private static final Pattern MADE_IN_A_FIELD =
+        Pattern.compile("    private final \\w+\\[\\] \\w+ = new \\w+\\[\\w+\\];");
 
     public static void main(String[] args) throws Exception {
         Due due = new Due();
+        due.sentence("public final class HalfPel");
         theClassItself(due);
+        due.sentence("There are no public constants.");
+        due.holds(HalfPel.class.getFields().length == 0, "no public field");
+        due.sentence("The class has no public, protected or package-visible member beyond these.");
         theVisibleMembers(due);
+        due.sentence("Limits on the class: no static field except compile-time constants, primitive arrays.");
         theFields(due);
+        due.sentence("Limits on the class: no class but itself, and no statement that the limits rule out.");
         theSource(due);
-        anyCallsInAnyOrderAnswer(due);
         due.end();
     }
 
     private static void theClassItself(Due due) {
         int modifiers = HalfPel.class.getModifiers();
-        due.holds("public", Modifier.isPublic(modifiers));
-        due.holds("final", Modifier.isFinal(modifiers));
-        due.holds("extends nothing", HalfPel.class.getSuperclass() == Object.class);
-        due.holds("implements nothing", HalfPel.class.getInterfaces().length == 0);
-        due.holds("no nested class", HalfPel.class.getDeclaredClasses().length == 0);
+        due.holds(Modifier.isPublic(modifiers), "public");
+        due.holds(Modifier.isFinal(modifiers), "final");
+        due.holds(HalfPel.class.getSuperclass() == Object.class, "extends nothing");
+        due.holds(HalfPel.class.getInterfaces().length == 0, "implements nothing");
+        due.holds(HalfPel.class.getDeclaredClasses().length == 0, "no nested class");
     }
 
     private static void theVisibleMembers(Due due) {
@@ -54,7 +62,7 @@ public final class FaceTest {
             "public int HalfPel.setRounding(int)",
             "public int HalfPel.sample(int,int)",
             "public int HalfPel.pixel(int)"));
-        due.holds("the visible members are " + want + ", seen: " + seen, seen.equals(want));
+        due.holds(seen.equals(want), "the visible members are " + want + ", seen: " + seen);
     }
 
     private static void addVisible(Set<String> seen, Member member, String text) {
@@ -67,11 +75,11 @@ public final class FaceTest {
         for (Field f : HalfPel.class.getDeclaredFields()) {
             Class<?> type = f.getType();
             if (Modifier.isStatic(f.getModifiers())) {
-                due.holds(f + " is a constant of int or long",
-                    Modifier.isFinal(f.getModifiers()) && (type == int.class || type == long.class));
+                due.holds(Modifier.isFinal(f.getModifiers()) && (type == int.class || type == long.class),
+                    f + " is a constant of int or long");
             }
             Class<?> plain = type.isArray() ? type.getComponentType() : type;
-            due.holds(f + " is of a primitive type or a line of it", plain.isPrimitive());
+            due.holds(plain.isPrimitive(), f + " is of a primitive type or a line of it");
         }
     }
 
@@ -80,48 +88,14 @@ public final class FaceTest {
         String code = source.replaceAll("(?s)/\\*.*?\\*/", " ").replaceAll("//[^\n]*", " ");
         Matcher word = Pattern.compile("\\w+").matcher(code);
         while (word.find()) {
-            due.holds("the source is without " + word.group(), !BANNED_WORDS.contains(word.group()));
+            due.holds(!BANNED_WORDS.contains(word.group()), "the source is without " + word.group());
+            due.holds(word.group().equals("HalfPel") || !CLASS_NAME.matcher(word.group()).matches(),
+                "the source is without the class " + word.group());
         }
-        due.holds("the source is without lambdas", !code.contains("->") && !code.contains("::"));
-    }
-
-    /** A long run on one object beside a plain model of it: each call meets many states. */
-    private static void anyCallsInAnyOrderAnswer(Due due) {
-        HalfPel h = new HalfPel();
-        int[] cells = new int[16];
-        int r = 0;
-        int state = 20261115;
-        for (int n = 0; n < 200000; n++) {
-            state = state * 1103515245 + 12345;
-            int i = (state >>> 8 & 31) - 8;
-            int v = state >> 3;
-            boolean isCell = i >= 0 && i <= 15;
-            switch (state >>> 29) {
-                case 0:
-                    due.answer("call " + n + ", setRounding(" + v + ")", h.setRounding(v), r);
-                    r = v & 1;
-                    break;
-                case 1:
-                case 2:
-                    due.answer("call " + n + ", pixel(" + i + ")", h.pixel(i), isCell ? cells[i] : -1);
-                    break;
-                case 3:
-                case 4: {
-                    int y2 = (state >>> 16 & 7) - 2;
-                    int got = h.sample(i, y2);
-                    boolean inside = i >= 0 && i <= 14 && y2 >= 0 && y2 <= 2;
-                    due.holds("call " + n + ", sample(" + i + ", " + y2 + ") = " + got + " is in its range",
-                        inside ? got >= 0 && got <= 255 : got == -1);
-                    break;
-                }
-                default:
-                    due.answer("call " + n + ", setPixel(" + i + ", " + v + ")",
-                        h.setPixel(i, v), isCell ? cells[i] : -1);
-                    if (isCell) {
-                        cells[i] = v & 255;
-                    }
-            }
+        due.holds(!code.contains("->") && !code.contains("::"), "the source is without lambdas");
+        for (String line : code.split("\n")) {
+            due.holds(!line.matches(".*\\bnew\\b.*") || MADE_IN_A_FIELD.matcher(line).matches(),
+                "what is made is an array in a field's initialiser: " + line.trim());
         }
-        due.state("after the run", h, cells, r);
     }
 }
