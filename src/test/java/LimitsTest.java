@@ -22,7 +22,8 @@ public final class LimitsTest {
     private static final Pattern CAST = Pattern.compile("\\(\\s*(\\w+(?:\\s*\\[\\s*\\])*)\\s*\\)\\s*[\\w(]");
     private static final Pattern REAL_NUMBER =
         Pattern.compile("\\b\\d+\\.|\\.\\d|\\b\\d+[eE][+-]?\\d|\\b\\d[\\d_]*[fFdD]\\b|\\b0[xX][\\w.]*[pP]");
-    private static final Pattern METHOD = Pattern.compile("(?s)\n    (?:public|private)[\\w\\s\\[\\]]*? (\\w+)\\([^)]*\\) \\{(.*?)\n    \\}");
+    private static final Pattern METHOD =
+        Pattern.compile("(?s)\n    (?:public|private)[\\w\\s\\[\\]]*? (\\w+)\\([^)]*\\) \\{(.*?)\n    \\}");
 
     public static void main(String[] args) throws Exception {
         Due due = new Due();
